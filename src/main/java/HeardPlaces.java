@@ -65,17 +65,11 @@ public final class HeardPlaces {
     }
 
     public int plan(int k, int lane, int i) {
-        latestFault = 0;
-        if (!within(k, 0, SHEETS - 1)) {
-            return UNKNOWN;
-        }
-        if (!within(lane, 0, LANES - 1)) {
-            return OUTSIDE;
+        int refusal = refusalOfRow(k, lane);
+        if (refusal != 0) {
+            return refusal;
         }
         Sheet from = sheets[k];
-        if (from.faultAs(lane) != 0) {
-            return faulty(from.faultAs(lane));
-        }
         if (!from.reaches(i, desk.width * desk.height)) {
             return faulty(INDEX);
         }
@@ -195,21 +189,11 @@ public final class HeardPlaces {
     }
 
     public int measures(int k, int lane, int i, int n) {
-        latestFault = 0;
-        if (!within(k, 0, SHEETS - 1)) {
-            return UNKNOWN;
+        int refusal = refusalOfRow(k, lane);
+        if (refusal != 0) {
+            return refusal;
         }
-        if (!within(lane, 0, LANES - 1)) {
-            return OUTSIDE;
-        }
-        Sheet from = sheets[k];
-        if (from.faultAs(lane) != 0) {
-            return faulty(from.faultAs(lane));
-        }
-        if (n < 0) {
-            return faulty(SIZE);
-        }
-        return measuresFrom(from, i, n);
+        return n < 0 ? faulty(SIZE) : measuresFrom(sheets[k], i, n);
     }
 
     public int turn(int m, boolean is) {
@@ -630,16 +614,14 @@ public final class HeardPlaces {
     }
 
     public long cell(int k, int i, int lane) {
-        latestFault = 0;
-        if (!within(k, 0, SHEETS - 1) || !within(lane, 0, LANES - 1)) {
+        if (refusalOfRow(k, lane) != 0) {
             return LOST;
         }
-        Sheet from = sheets[k];
-        latestFault = from.faultAs(lane);
-        if (latestFault == 0 && !from.reaches(i, 1)) {
+        if (!sheets[k].reaches(i, 1)) {
             latestFault = INDEX;
+            return LOST;
         }
-        return latestFault == 0 ? from.row[i] : LOST;
+        return sheets[k].row[i];
     }
 
     public int copy(int k, int i, int other, int j, int n) {
@@ -734,6 +716,21 @@ public final class HeardPlaces {
     private int faulty(int kind) {
         latestFault = kind;
         return -10 - kind;
+    }
+
+    /** Of a SHEET taken as a row of a LANE: a refusal, a FAULT, or 0. */
+    private int refusalOfRow(int k, int lane) {
+        latestFault = 0;
+        if (!within(k, 0, SHEETS - 1)) {
+            return UNKNOWN;
+        }
+        if (!within(lane, 0, LANES - 1)) {
+            return OUTSIDE;
+        }
+        if (sheets[k].isEmpty()) {
+            return faulty(NULL);
+        }
+        return sheets[k].lane == lane ? 0 : faulty(CAST);
     }
 
     private long planned(Sheet from, int i) {
@@ -1909,13 +1906,6 @@ public final class HeardPlaces {
         void end() {
             lane = NONE;
             length = 0;
-        }
-
-        int faultAs(int wanted) {
-            if (isEmpty()) {
-                return NULL;
-            }
-            return lane == wanted ? 0 : CAST;
         }
 
         boolean reaches(int i, int n) {

@@ -195,6 +195,18 @@ public final class PromisesTest {
         due("field", x.field(1, 1), 1);
         due("sheet", x.sheet(2, 1, 0), 1);
         faultDue(x, "an empty row", x.plan(2, 1, 0), 3);
+        HeardPlaces y = fieldOf(3, 1);
+        due("anchor", y.thing(1, 0), 0);
+        due("thing", y.thing(0, 0), 1);
+        due("measure", y.measure(4, 0, 1, 1, 1), 0);
+        due("cells", y.cells(1), 2);
+        due("keeps", y.keeps(0, 0, 1), 1);
+        lay(y, 0, 0, 3, 0, 1, 0);
+        due("plan", y.plan(0, 0, 0), 2);
+        due("cells follow", y.cells(1), 0);
+        due("hops follow", y.keeps(0, 0, 1), 0);
+        due("wall", y.wall(1, false), 1);
+        due("hops follow", y.keeps(0, 0, 1), 1);
     }
 
     private static void promise5() {
@@ -255,6 +267,12 @@ public final class PromisesTest {
         due("box", x.box(0, 1, 1, 2, 2), 3);
         due("wall", x.wall(at(1, 1), false), 1);
         due("the box stays", x.about(0, 1), 4);
+        HeardPlaces y = new HeardPlaces();
+        due("thing", y.thing(0, 0), 0);
+        due("the last corner", y.box(0, 7, 7, 7, 7), 1);
+        due("cells", y.cells(0), LOST);
+        due("the first corner", y.box(0, 0, 0, 0, 0), 1);
+        due("cells", y.cells(0), 1);
     }
 
     private static void promise7() {
@@ -339,6 +357,7 @@ public final class PromisesTest {
             due("cells(" + t + ")", y.cells(t), due[t]);
         }
         due("box", y.box(4, 3, 0, 7, 0), 5);
+        due("all of one cell", y.many(5), 5);
         long[] after = {1, 2, 4, 8, 16};
         for (int t = 0; t < 5; t++) {
             due("cells(" + t + ")", y.cells(t), after[t]);
@@ -563,6 +582,8 @@ public final class PromisesTest {
         due("a wall is never kept", x.keeps(7, at(1, 0), at(1, 2)), 0);
         due("a wall is never kept", x.keeps(7, at(1, 2), at(1, 0)), 0);
         due("of others it is", x.keeps(1, at(1, 0), at(1, 0)), 1);
+        due("wall", x.wall(at(1, 0), false), 1);
+        due("walls count at once", x.keeps(7, at(0, 0), at(2, 0)), 1);
         due("off, too", x.turn(1, false), 1);
         due("off, too", x.keeps(1, at(1, 0), at(1, 0)), 1);
         due("measure", x.keeps(9, 0, 0), UNKNOWN);
@@ -799,6 +820,8 @@ public final class PromisesTest {
         due("not sure", x.sure(1), NONE);
         due("box", x.box(1, 1, 0, 2, 0), 2);
         due("sure", x.sure(1), 2);
+        due("box", x.box(1, 0, 0, 0, 0), 1);
+        due("sure of the first cell", x.sure(1), 0);
         due("box", x.box(1, 1, 0, 1, 0), 1);
         due("no placing", x.sure(1), NONE);
         due("no placing", x.sure(2), NONE);
@@ -886,6 +909,17 @@ public final class PromisesTest {
         due("what", x.ask(1, -1), OUTSIDE);
         due("thing ahead of what", x.ask(3, 2), UNKNOWN);
         due("thing", x.ask(-1, 0), UNKNOWN);
+        due("thing", x.thing(0, 0), 3);
+        due("measure", x.measure(1, 2, 3, 0, 98), 1);
+        due("turn", x.turn(0, false), 1);
+        due("one cell", x.ask(1, 1), 1);
+        due("box", x.box(1, 0, 0, 0, 0), 1);
+        due("the first cell", x.ask(1, 1), 1);
+        due("measure", x.measure(1, 1, 2, 0, 98), 2);
+        due("box", x.box(2, 0, 0, 7, 7), 3);
+        due("box", x.box(3, 1, 0, 2, 0), 2);
+        due("the least of three", x.ask(3, 0), 2);
+        due("worst", x.ask(3, 1), 2);
         HeardPlaces y = some60000(true);
         due("what ahead of spent", y.ask(0, 2), OUTSIDE);
         due("spent", y.ask(0, 0), SPENT);
@@ -920,6 +954,11 @@ public final class PromisesTest {
         HeardPlaces y = some60000(true);
         due("what ahead of spent", y.between(0, 3), OUTSIDE);
         due("spent", y.between(0, 2), SPENT);
+        HeardPlaces far = new HeardPlaces();
+        due("thing", far.thing(0, 0), 0);
+        due("thing", far.thing(0, 0), 1);
+        due("measure", far.measure(0, 0, 1, 98, 98), 0);
+        due("as far as can be", far.between(0, 2), 4);
         // Of like pairs the first: all three on one CELL.
         HeardPlaces z = fieldOf(1, 1);
         for (int t = 0; t < 3; t++) {
@@ -1029,6 +1068,16 @@ public final class PromisesTest {
         due("alone", x.check(), -203);
         due("alone", x.alone(false), 1);
         due("right", x.check(), 1);
+        due("wall", x.wall(1, true), 1);
+        due("put", x.put(2, 0), 1);
+        due("put", x.put(1, 0), 2);
+        due("measure 1 is off", x.turn(1, false), 1);
+        due("put", x.put(3, 2), 0);
+        due("the steps are barred", x.check(), -22);
+        due("wall", x.wall(1, false), 1);
+        due("two steps", x.check(), -22);
+        due("put", x.put(3, 1), 2);
+        due("right", x.check(), 1);
     }
 
     /** ANCHORS 0 at (0, 3), 1 at (4, 3), and THING 2 at (2, 5), at DISTANCE 8 of each. */
@@ -1045,6 +1094,9 @@ public final class PromisesTest {
         due("put", x.put(1, at(4, 3)), NONE);
         due("one joint is not enough", x.flips(2), 0);
         due("put", x.put(0, at(0, 3)), NONE);
+        due("put", x.put(1, -9), at(4, 3));
+        due("nor the other", x.flips(2), 0);
+        due("put", x.put(1, at(4, 3)), NONE);
         return x;
     }
 
@@ -1089,6 +1141,9 @@ public final class PromisesTest {
         due("an anchor's", x.flips(0), 0);
         due("put", x.put(0, -9), at(0, 4));
         due("state of an anchor", x.flips(0), STATE);
+        flipsAtEdges();
+        flipsCrowded();
+        flipsBySteps();
         // Nothing moves that stands on the JOINT.
         HeardPlaces y = fieldOf(3, 3);
         due("anchor", y.thing(1, at(1, 1)), 0);
@@ -1112,6 +1167,58 @@ public final class PromisesTest {
         due("within the field", y.flips(1), 2);
     }
 
+    private static HeardPlaces hung(int joint, int cell) {
+        HeardPlaces x = new HeardPlaces();
+        due("anchor", x.thing(1, joint), 0);
+        due("thing", x.thing(0, 0), 1);
+        due("measure", x.measure(1, 0, 1, 0, 98), 0);
+        due("put", x.put(0, joint), NONE);
+        due("put", x.put(1, cell), NONE);
+        return x;
+    }
+
+    private static void flipsAtEdges() {
+        due("beyond the right", hung(at(6, 5), at(7, 7)).flips(1), 5);
+        due("beyond the bottom", hung(at(5, 6), at(7, 7)).flips(1), 5);
+        due("beyond the left", hung(at(1, 2), at(0, 0)).flips(1), 5);
+        due("beyond the top", hung(at(2, 1), at(0, 0)).flips(1), 5);
+        HeardPlaces x = hung(at(6, 5), at(7, 5));
+        due("thing of no cell", x.thing(0, 0), 2);
+        due("alone", x.alone(true), 1);
+        due("one of no cell bars none", x.flips(1), 6);
+        due("put", x.put(2, at(6, 6)), NONE);
+        due("one that has a cell does", x.flips(1), 4);
+    }
+
+    private static void flipsCrowded() {
+        HeardPlaces x = hung(at(3, 3), at(3, 4));
+        due("thing", x.thing(0, 0), 2);
+        due("measure", x.measure(1, 1, 2, 0, 0), 1);
+        due("put", x.put(2, at(3, 4)), NONE);
+        due("two on one", x.flips(1), 6);
+        due("alone", x.alone(true), 1);
+        due("two on one", x.flips(1), 0);
+    }
+
+    private static void flipsBySteps() {
+        HeardPlaces y = fieldOf(3, 3);
+        due("anchor", y.thing(1, at(1, 1)), 0);
+        due("thing", y.thing(0, 0), 1);
+        due("measure", y.measure(3, 0, 1, 0, 0), 0);
+        due("put", y.put(0, at(1, 1)), NONE);
+        due("put", y.put(1, at(2, 1)), NONE);
+        due("no other side", y.flips(1), 0);
+        HeardPlaces x = hung(at(3, 3), at(3, 5));
+        due("measure", x.measure(4, 0, 1, 2, 1), 1);
+        due("flips", x.flips(1), 6);
+        due("wall", x.wall(at(3, 2), true), 1);
+        due("walls count at once", x.flips(1), 4);
+        due("wall", x.wall(at(2, 3), true), 1);
+        due("walls count at once", x.flip(1, 2, 0), UNKNOWN);
+        due("wall", x.wall(at(3, 2), false), 1);
+        due("walls count at once", x.flip(1, 3, 0), 0);
+    }
+
     private static void promise31() {
         HeardPlaces x = mirror();
         flipDue(x, 2, 0, 0, 1, 5, bits(2));
@@ -1126,6 +1233,14 @@ public final class PromisesTest {
         due("thing", x.flip(-1, 0, 0), UNKNOWN);
         due("put", x.put(2, -9), at(2, 5));
         due("state ahead of i", x.flip(2, -1, 4), STATE);
+        int[][] turned = {{-2, 1}, {-1, -2}, {2, -1}, {-1, 2}, {1, -2}, {2, 1}, {-2, -1}};
+        HeardPlaces z = hung(at(3, 3), at(4, 5));
+        due("all", z.flips(1), 7);
+        for (int i = 0; i < 7; i++) {
+            flipDue(z, 1, i, 0, NONE, i + 1, bits(1));
+            due("flipped", z.flipped(1, i), 1);
+            due("turned", z.put(1, at(4, 5)), at(3 + turned[i][0], 3 + turned[i][1]));
+        }
         // A row of THINGS, each beside the last one; joints of the group, one ahead of two.
         HeardPlaces y = fieldOf(2, 2);
         int[] cells = {at(0, 0), at(1, 0), at(1, 1)};
@@ -1171,6 +1286,18 @@ public final class PromisesTest {
         due("nothing changed", x.about(2, 5), at(2, 5));
         due("put", x.put(2, -9), at(2, 5));
         due("state", x.flipped(2, 9), STATE);
+        HeardPlaces z = fieldOf(2, 2);
+        due("thing", z.thing(0, 0), 0);
+        due("thing", z.thing(0, 0), 1);
+        due("measure", z.measure(1, 0, 1, 0, 1), 0);
+        due("put", z.put(0, 0), NONE);
+        due("put", z.put(1, 1), NONE);
+        due("the second", z.flipped(0, 1), 1);
+        due("stays", z.about(0, 5), 0);
+        due("moves", z.about(1, 5), 8);
+        due("about itself", z.flip(0, 2, 3), bits(0));
+        due("the first", z.flipped(0, 2), 1);
+        due("moves", z.about(0, 5), 9);
         // Of a PART of two one moves alone: it lies aside of the line that the other lies on.
         HeardPlaces y = fieldOf(3, 3);
         due("anchor", y.thing(1, at(0, 1)), 0);
@@ -1417,6 +1544,12 @@ public final class PromisesTest {
         for (int t = 0; t < 4; t++) {
             due("lies", y.lies(t), both[t]);
         }
+        due("trust", y.trust(0, false), 1);
+        due("trust", y.trust(1, false), 1);
+        int[] ends = {1, 1, 0, 0};
+        for (int t = 0; t < 4; t++) {
+            due("lies", y.lies(t), ends[t]);
+        }
     }
 
     private static void promise40() {
@@ -1441,7 +1574,7 @@ public final class PromisesTest {
         HeardPlaces x = fieldOf(4, 3);
         due("wall", x.wall(at(1, 0), true), 1);
         due("anchor", x.thing(1, 0), 0);
-        due("mover", x.mover(2, 2), 0);
+        due("mover", x.mover(2, 0), 0);
         due("measure", x.measure(4, 0, 1, 1, 1), 1);
         due("turn", x.turn(0, false), 1);
         due("box", x.box(2, 0, 0, 0, 2), 3);
@@ -1460,6 +1593,9 @@ public final class PromisesTest {
         due("hold", x.hold(1, 0, 0), 1);
         due("lose", x.lose(0), 1);
         due("placings", x.placings(0), 64);
+        due("thing", x.thing(0, 0), 1);
+        due("mover", x.mover(5, 98), 0);
+        due("mover", x.mover(3, 98), 1);
         due("nothing kept", x.back(0), STATE);
         due("image", x.back(2), UNKNOWN);
         due("image", x.back(-1), UNKNOWN);
@@ -1476,7 +1612,9 @@ public final class PromisesTest {
             due("map", x.about(1, 5), 8);
             due("mover", x.about(2, 7), 0);
             due("tick", x.about(2, 8), 1);
-            due("ways", x.ways(0), 3);
+            due("tick", x.tick(0, 0), 1);
+            due("tick", x.tick(0, 2), UNKNOWN);
+            due("ways", x.ways(0), 1);
             due("measures", x.many(2), 2);
             due("off", x.told(0, 5), 0);
             due("kind", x.told(1, 0), 4);
@@ -1492,6 +1630,10 @@ public final class PromisesTest {
             due("trust", x.trust(0, false), 1);
             due("box", x.box(2, 0, 0, 7, 7), 10);
             due("alone", x.alone(false), 1);
+            due("shut in", x.cells(1), 0);
+            due("quarrel", x.quarrel(), 1);
+            due("liars", x.liars(0), 1);
+            due("ways", x.ways(0), 0);
         }
         due("holds are not of the desk", x.as(1, 0), 0);
         due("nor sheets", x.lose(0), 0);
@@ -1628,6 +1770,11 @@ public final class PromisesTest {
             due("trace of " + k, x.trace(), trace);
         }
         due("loose", x.loose(4), 1);
+        due("beacon", x.thing(2, 50), 3);
+        due("hold", x.hold(0, 0, 3), 1);
+        due("tell", x.tell(0, 0), 9 + 50 + 9);
+        due("trace", x.trace(), traceOf(trace, 3, 2, 1, 1));
+        trace = x.trace();
         faultDue(x, "nothing", x.tell(4, 0), 1);
         due("what ahead of nothing", x.tell(4, -1), OUTSIDE);
         due("hold ahead of what", x.tell(8, 2), UNKNOWN);
@@ -1652,6 +1799,11 @@ public final class PromisesTest {
             due("trace of " + k, x.trace(), trace);
         }
         due("loose", x.loose(4), 1);
+        due("beacon", x.thing(2, 50), 3);
+        due("hold", x.hold(0, 0, 3), 1);
+        due("greet", x.greet(0, 0), 503);
+        due("trace", x.trace(), traceOf(trace, 10, 9));
+        trace = x.trace();
         faultDue(x, "nothing", x.greet(4, 1), 1);
         due("what ahead of nothing", x.greet(4, -1), OUTSIDE);
         due("hold ahead of what", x.greet(8, 2), UNKNOWN);
