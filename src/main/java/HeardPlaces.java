@@ -1128,8 +1128,7 @@ public final class HeardPlaces {
         Grid() {
             for (int cell = 0; cell < CELLS; cell++) {
                 for (int other = 0; other < CELLS; other++) {
-                    near[distance(cell, other)][cell] |= bit(other);
-                    setSides(cell, other);
+                    mark(cell, other);
                 }
                 for (int r = 1; r <= FARTHEST; r++) {
                     near[r][cell] |= near[r - 1][cell];
@@ -1137,9 +1136,10 @@ public final class HeardPlaces {
             }
         }
 
-        private void setSides(int cell, int other) {
+        private void mark(int cell, int other) {
             int dx = (other & 7) - (cell & 7);
             int dy = (other >> 3) - (cell >> 3);
+            near[dx * dx + dy * dy][cell] |= bit(other);
             if (dx != 0 && Math.abs(dy) <= Math.abs(dx)) {
                 beside[dx > 0 ? 0 : 2][cell] |= bit(other);
             }

@@ -343,6 +343,8 @@ public final class PromisesTest {
         due("all again", x.cells(0), -1L);
         due("thing", x.cells(2), 0);
         due("thing", x.cells(-1), 0);
+        chainDue(true);
+        chainDue(false);
         // A row of THINGS, each heard by the next one alone.
         HeardPlaces y = fieldOf(8, 1);
         due("anchor", y.thing(1, 0), 0);
@@ -365,6 +367,24 @@ public final class PromisesTest {
         due("wall", y.wall(2, true), 1);
         for (int t = 0; t < 5; t++) {
             due("none of a quarrel", y.cells(t), 0);
+        }
+    }
+
+    /** A chain of THINGS in no order of their numbers, from an ANCHOR on, told from its end on. */
+    private static void chainDue(boolean onward) {
+        int[] chain = {0, 3, 1, 4, 2, 6, 5};
+        HeardPlaces x = fieldOf(8, 1);
+        due("anchor", x.thing(1, 0), 0);
+        for (int t = 1; t < 7; t++) {
+            due("thing", x.thing(0, 0), t);
+        }
+        for (int i = 5; i >= 0; i--) {
+            int near = chain[i];
+            int far = chain[i + 1];
+            due("measure", x.measure(3, onward ? near : far, onward ? far : near, onward ? 0 : 2, 0), 5 - i);
+        }
+        for (int i = 1; i < 7; i++) {
+            due("cells of the chain", x.cells(chain[i]), 3L << i);
         }
     }
 
@@ -571,6 +591,10 @@ public final class PromisesTest {
         }
         due("steps", x.measure(4, 0, 1, 2, 1), 7);
         due("steps of none", x.measure(4, 0, 1, 0, 1), 8);
+        due("far from none on", x.measure(0, 0, 1, 0, 1), 9);
+        due("keeps", x.keeps(9, at(1, 1), at(1, 1)), 1);
+        due("keeps", x.keeps(9, at(1, 1), at(2, 1)), 1);
+        due("keeps", x.keeps(9, at(1, 1), at(2, 2)), 0);
         due("steps", x.keeps(7, at(0, 0), at(1, 1)), 1);
         due("steps", x.keeps(7, at(0, 0), at(2, 0)), 1);
         due("steps", x.keeps(7, at(0, 0), at(1, 0)), 0);
@@ -586,7 +610,7 @@ public final class PromisesTest {
         due("walls count at once", x.keeps(7, at(0, 0), at(2, 0)), 1);
         due("off, too", x.turn(1, false), 1);
         due("off, too", x.keeps(1, at(1, 0), at(1, 0)), 1);
-        due("measure", x.keeps(9, 0, 0), UNKNOWN);
+        due("measure", x.keeps(10, 0, 0), UNKNOWN);
         due("measure", x.keeps(-1, 0, 0), UNKNOWN);
         due("cell", x.keeps(0, 5, 0), UNKNOWN);
         due("cell", x.keeps(0, 0, 40), UNKNOWN);
@@ -1182,11 +1206,11 @@ public final class PromisesTest {
         due("beyond the bottom", hung(at(5, 6), at(7, 7)).flips(1), 5);
         due("beyond the left", hung(at(1, 2), at(0, 0)).flips(1), 5);
         due("beyond the top", hung(at(2, 1), at(0, 0)).flips(1), 5);
-        HeardPlaces x = hung(at(6, 5), at(7, 5));
+        HeardPlaces x = hung(at(6, 6), at(5, 6));
         due("thing of no cell", x.thing(0, 0), 2);
         due("alone", x.alone(true), 1);
         due("one of no cell bars none", x.flips(1), 6);
-        due("put", x.put(2, at(6, 6)), NONE);
+        due("put", x.put(2, at(6, 5)), NONE);
         due("one that has a cell does", x.flips(1), 4);
     }
 
@@ -1617,6 +1641,7 @@ public final class PromisesTest {
             due("ways", x.ways(0), 1);
             due("measures", x.many(2), 2);
             due("off", x.told(0, 5), 0);
+            due("its thing", x.told(0, 1), 1);
             due("kind", x.told(1, 0), 4);
             due("cells", x.cells(1), kept);
             due("alone", x.many(9), 1);
