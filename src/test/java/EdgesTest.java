@@ -250,6 +250,7 @@ public final class EdgesTest {
     private static void hops() {
         told("HOPS of two FREE CELLS by a reach r: the least number of steps from the one to the other, each from a FREE CELL"
             + " to a FREE CELL at DISTANCE r at most (0 for a CELL and itself; none: -1).");
+        told("HOPS by a reach. UNKNOWN: a cell; OUTSIDE: r is not 0 .. 98; STATE: one is a WALL.");
         HeardPlaces x = new HeardPlaces();
         for (int r : new int[] {0, 1, 97, 98}) {
             for (int c = 0; c < 64; c += 9) {
@@ -600,6 +601,8 @@ public final class EdgesTest {
 
     private static void quarrelOfOne() {
         told("A QUARREL: some THING has no CELL then.");
+        told("Whether there is a QUARREL: how many MEASURES are in THE LEAST one (0: an empty one); NONE: there is"
+            + " none.");
         HeardPlaces x = rowOf(2, 3);
         x.thing(1, 0);
         due("all have CELLS", x.quarrel(), NONE);
@@ -709,6 +712,7 @@ public final class EdgesTest {
 
     private static void placingsInOrder() {
         told("In order: by THINGS' numbers, then by CELLS.");
+        told("The CELL of THING u in the n-th PLACING of its GROUP. UNKNOWN: u, n; SPENT.");
         HeardPlaces x = fieldOf(2, 2);
         addThings(x, 3);
         x.measure(1, 2, 1, 0, 98);
@@ -730,7 +734,8 @@ public final class EdgesTest {
     }
 
     private static void aloneInGroups() {
-        told("with the rule ALONE (off at first) no two on one CELL, and none on the CELL of an ANCHOR that is not of the GROUP.");
+        told("with the rule ALONE (off at first) no two on one CELL, and none on the CELL of an ANCHOR that is not of"
+            + " the GROUP.");
         HeardPlaces x = rowOf(4, 3);
         due("off at first", x.alone(false), 0);
         x.measure(1, 0, 1, 0, 98);
@@ -774,7 +779,8 @@ public final class EdgesTest {
         due("the ANCHOR's CELL is a TRIAL that does not stay", x.trials(), 3 + 6 + 6);
         due("an ANCHOR", x.placings(3), 1);
         due("one TRIAL", x.trials(), 1);
-        told("TRIALS of the latest placings() that was not UNKNOWN (60000, if SPENT by them; 0, if by THINGS, ahead of any).");
+        told("TRIALS of the latest placings() that was not UNKNOWN (60000, if SPENT by them; 0, if by THINGS, ahead of"
+            + " any).");
         due("UNKNOWN", x.placings(4), UNKNOWN);
         due("as they were", x.trials(), 1);
         due("other calls are no placings()", x.could(0), 0);
@@ -893,6 +899,7 @@ public final class EdgesTest {
 
     private static void sureOfOneAtLeast() {
         told("A THING is SURE of a CELL, if all PLACINGS of its GROUP (one at least) have it there.");
+        told("The CELL of which a THING is SURE; NONE. UNKNOWN; SPENT.");
         HeardPlaces x = rowOf(2, 2);
         due("two", x.sure(0), NONE);
         x.measure(2, 0, 1, 0, 0);
@@ -922,7 +929,9 @@ public final class EdgesTest {
     }
 
     private static void goTogether() {
-        told("CELLS of two THINGS GO TOGETHER, if a PLACING has both; of unlike GROUPS, if each has one that has its own.");
+        told("CELLS of two THINGS GO TOGETHER, if a PLACING has both; of unlike GROUPS, if each has one that has its"
+            + " own.");
+        told("Whether CELLS of two THINGS GO TOGETHER: 1, 0");
         HeardPlaces x = rowOf(3, 3);
         x.measure(2, 0, 1, 0, 0);
         x.box(2, 1, 0, 2, 0);
@@ -948,6 +957,7 @@ public final class EdgesTest {
     private static void bestAsked() {
         told("WORST of a THING: the most PLACINGS of the GROUP that have it on one CELL. BEST ASKED: the THING with the least"
             + " WORST, of several the first.");
+        told("BEST ASKED of the GROUP of a THING: 0 the THING, 1 its WORST.");
         HeardPlaces x = rowOf(4, 4);
         for (int t = 1; t < 4; t++) {
             x.measure(1, t - 1, t, 0, 98);
@@ -976,6 +986,7 @@ public final class EdgesTest {
 
     private static void betweenTwo() {
         told("the two with the least, of several the first by the first THING, then by the second.");
+        told("BETWEEN of the GROUP of a THING: 0 the first, 1 the second THING, 2 that number.");
         HeardPlaces x = rowOf(4, 4);
         for (int t = 1; t < 4; t++) {
             x.measure(1, 0, t, 0, 98);
@@ -1061,6 +1072,8 @@ public final class EdgesTest {
     private static void mapRight() {
         told("-100 less the first THING that does not stand on a TOLD CELL of its, -200 less the first that, with ALONE, stands"
             + " where one of lesser number does, -20 less the first MEASURE that is not KEPT, in this order.");
+        told("It is RIGHT, if each THING that has a CELL stands on one of its TOLD CELLS; with ALONE no two on one;"
+            + " and all MEASURES that are ON of two THINGS that have CELLS are KEPT.");
         HeardPlaces x = rowOf(2, 24);
         for (int t = 0; t < 24; t++) {
             x.put(t, 0);
@@ -1339,8 +1352,8 @@ public final class EdgesTest {
     }
 
     private static void flipsInOrder() {
-        told("FLIPS are in order by JOINTS (one ahead of two; by the first one's number, then the second's, which is the greater),"
-            + " then by the least THING of the PART, then by TURNING.");
+        told("FLIPS are in order by JOINTS (one ahead of two; by the first one's number, then the second's, which is the"
+            + " greater), then by the least THING of the PART, then by TURNING.");
         HeardPlaces x = fieldOf(3, 3);
         addThings(x, 4);
         x.measure(1, 3, 0, 0, 98);
@@ -1377,6 +1390,7 @@ public final class EdgesTest {
 
     private static void threeMovers() {
         told("MOVERS, 3 ever: of n TICKS (2 .. 8) and a reach r (0 .. 98)");
+        told("A MOVER: its number. OUTSIDE: n, r;");
         HeardPlaces x = rowOf(1, 0);
         for (int n : new int[] {MIN, 0, 1, 9, MAX}) {
             due("n " + n, x.mover(n, 0), OUTSIDE);
@@ -1456,6 +1470,7 @@ public final class EdgesTest {
     private static void waysInOrder() {
         told("rows of CELLS, one for each TICK, of those that its THINGS have NARROWED, each at DISTANCE r at most from the one"
             + " ahead; in order by TICKS, by CELLS.");
+        told("The CELL at a TICK of the n-th WAY. UNKNOWN: MOVER, TICK, n.");
         HeardPlaces x = rowOf(8, 0);
         x.mover(2, 4);
         x.box(0, 2, 0, 4, 0);
@@ -1517,6 +1532,7 @@ public final class EdgesTest {
     private static void fewestLiars() {
         told("such that without all MEASURES of any of them there is no QUARREL: the FEWEST (0, 1 or 2 THINGS): all sets of that"
             + " many.");
+        told("LIARS: how many THINGS are in one of the FEWEST sets (what 0), how many such sets (1).");
         // THING 0 stands on CELL 0 by its BOX; each further one says that it does not.
         for (int liars = 0; liars <= 3; liars++) {
             HeardPlaces x = rowOf(2, 1 + liars);
@@ -1545,6 +1561,7 @@ public final class EdgesTest {
 
     private static void pairsOfLiars() {
         told("A THING is LYING, if it is in all of them, DOUBTFUL, if in some.");
+        told("Whether a THING is LYING (2), DOUBTFUL (1), neither (0). UNKNOWN; NONE: as liars().");
         // 0 quarrels with 1, 2 with 3, and 4 with none: any of the first two with any of the others.
         HeardPlaces x = rowOf(1, 5);
         x.measure(2, 0, 1, 0, 0);
@@ -1583,6 +1600,7 @@ public final class EdgesTest {
 
     private static void beaconsAreNoLiars() {
         told("a set of THINGS that are no BEACONS and not TRUSTED");
+        told("2 BEACON, an ANCHOR that is never taken for a liar.");
         for (int kind = 0; kind < 3; kind++) {
             HeardPlaces x = fieldOf(1, 1);
             x.thing(kind, 0);
@@ -1621,6 +1639,7 @@ public final class EdgesTest {
 
     private static void imagesOfEachSize() {
         told("IMAGES 0, 1 of the desk: FIELD, THINGS, MEASURES, MOVERS, TRUST, ALONE, MAP as they are when kept.");
+        told("The desk is kept as an IMAGE: 1. UNKNOWN.");
         HeardPlaces x = fieldOf(5, 2);
         for (int k : new int[] {-1, 0, 1, 2}) {
             due("nothing was kept yet", x.back(k), k == 0 || k == 1 ? STATE : UNKNOWN);
@@ -1824,6 +1843,7 @@ public final class EdgesTest {
 
     private static void holdsOfEach() {
         told("HOLDS 0 .. 7: each has nothing (at first), or a THING, a MEASURE as it is.");
+        told("A HOLD has a THING (what 0), a MEASURE (1): 1. UNKNOWN: HOLD; OUTSIDE: what; UNKNOWN: there is no such.");
         HeardPlaces x = rowOf(2, 23);
         x.thing(2, 1);
         for (int m = 0; m < 60; m++) {
@@ -1899,6 +1919,7 @@ public final class EdgesTest {
 
     private static void sheetsOfEachLength() {
         told("SHEETS 0 .. 3 have nothing (at first), or a row of 0 .. 64 numbers (0 at first) of a LANE");
+        told("A SHEET gets a new row: 1.");
         HeardPlaces x = new HeardPlaces();
         for (int k = 0; k < 4; k++) {
             due("nothing at first", x.lose(k), 0);
@@ -1961,7 +1982,8 @@ public final class EdgesTest {
     }
 
     private static void laneThatCutsAMeasure() {
-        told("MEASURES by cells of a SHEET from i on, taken as a row of a LANE, five each (as of measure(); cut to ints)");
+        told("MEASURES by cells of a SHEET from i on, taken as a row of a LANE, five each (as of measure(); cut to"
+            + " ints)");
         HeardPlaces x = new HeardPlaces();
         addThings(x, 3);
         long high = 1L << 32;
@@ -2032,7 +2054,8 @@ public final class EdgesTest {
     }
 
     private static void trace() {
-        told("leave their number in TRACE (an int that wraps, 0 at first, becomes 31 times it and the number) as they begin");
+        told("leave their number in TRACE (an int that wraps, 0 at first, becomes 31 times it and the number) as they"
+            + " begin");
         HeardPlaces x = new HeardPlaces();
         due("0 at first", x.trace(), 0);
         x.thing(2, 5);
@@ -2374,7 +2397,8 @@ public final class EdgesTest {
     }
 
     private static void quarrelsAreCounted() {
-        told("Whether there is a QUARREL: how many MEASURES are in THE LEAST one (0: an empty one); NONE: there is none.");
+        told("Whether there is a QUARREL: how many MEASURES are in THE LEAST one (0: an empty one); NONE: there is"
+            + " none.");
         // ANCHORS at both ends of a row and THINGS between, each beside the next one: too few to reach over.
         HeardPlaces x = rowOf(8, 6);
         x.thing(1, 0);
@@ -2450,7 +2474,8 @@ public final class EdgesTest {
     }
 
     private static void mapOfEach() {
-        told("THE MAP has a CELL of the FIELD (a WALL, too) for a THING (-9: none any more): what it had (NONE). UNKNOWN.");
+        told("THE MAP has a CELL of the FIELD (a WALL, too) for a THING (-9: none any more): what it had (NONE)."
+            + " UNKNOWN.");
         HeardPlaces x = fieldOf(3, 2);
         x.thing(0, 0);
         x.thing(1, at(1, 1));
@@ -2603,7 +2628,8 @@ public final class EdgesTest {
         due("CAST ahead of INDEX", x.copy(0, -1, 2, 0, 0), CAST);
         int[][] calls = {{0, 0, 2, 2}, {1, 0, 2, 2}, {2, 0, 1, 1}, {3, 0, 0, 0}, {0, 2, 0, 0}, {2, 0, 2, INDEX}, {0, 1, 2, INDEX},
             {0, 2, 1, INDEX}, {3, 0, 1, INDEX}, {4, 0, 0, INDEX}, {0, 3, 0, INDEX}, {0, 0, 3, INDEX}, {-1, 0, 1, INDEX},
-            {0, -1, 1, INDEX}, {0, 0, -1, INDEX}, {MAX, 0, 1, INDEX}, {0, MAX, 1, INDEX}, {1, 1, MAX, INDEX}, {MIN, 0, MIN, INDEX}};
+            {0, -1, 1, INDEX}, {0, 0, -1, INDEX}, {MAX, 0, 1, INDEX}, {0, MAX, 1, INDEX}, {1, 1, MAX, INDEX},
+            {MIN, 0, MIN, INDEX}};
         for (int[] c : calls) {
             x.lay(1, 0, 7);
             x.lay(1, 1, 8);
@@ -2613,6 +2639,191 @@ public final class EdgesTest {
             due("the first cell", x.cell(1, 0, 1), none ? 7 : c[0] + 1);
             due("the second cell", x.cell(1, 1, 1), none || c[2] == 1 ? 8 : c[0] + 2);
         }
+    }
+
+    private static void newObject() {
+        told("The FIELD is 8 by 8, all FREE; no THINGS, MEASURES, MOVERS, IMAGES, SHEETS; HOLDS, THE MAP have nothing.");
+        HeardPlaces x = new HeardPlaces();
+        due("FREE", x.many(0), 64);
+        for (int what = 1; what < 10; what++) {
+            due("many " + what, x.many(what), 0);
+        }
+        due("THING", x.about(0, 0), UNKNOWN);
+        due("MEASURE", x.told(0, 0), UNKNOWN);
+        due("MOVER", x.tick(0, 0), UNKNOWN);
+        due("quarrel", x.quarrel(), NONE);
+        due("liars", x.liars(0), 0);
+        due("right", x.check(), 1);
+        due("trials", x.trials(), 0);
+        due("fault", x.fault(), 0);
+        due("trace", x.trace(), 0);
+        for (int k = 0; k < 8; k++) {
+            due("IMAGE", x.back(k), k < 2 ? STATE : UNKNOWN);
+            due("HOLD", x.loose(k), 0);
+            due("SHEET", x.lose(k), k < 4 ? 0 : UNKNOWN);
+            due("HOLD", x.tell(k, 0), NULL);
+            due("SHEET", x.lay(k, 0, 0), k < 4 ? NULL : UNKNOWN);
+        }
+        HeardPlaces other = new HeardPlaces();
+        other.thing(0, 0);
+        other.wall(5, true);
+        other.keep(0);
+        due("another object has its own", x.many(1), 0);
+        due("another object has its own", x.many(0), 64);
+        due("another object has its own", x.back(0), STATE);
+    }
+
+    private static void placingsKeepAll() {
+        told("PLACINGS of a GROUP: all ways to put its THINGS each on one of its CELLS (as NARROWED) such that all MEASURES that"
+            + " are ON of two of them are KEPT");
+        told("How many PLACINGS the GROUP of a THING has. UNKNOWN; SPENT.");
+        told("How many CELLS a THING has over all PLACINGS of its GROUP. UNKNOWN; SPENT.");
+        // Three that are deaf to one another have no PLACING on two CELLS, though NARROWING leaves both to each.
+        HeardPlaces x = rowOf(2, 3);
+        x.measure(2, 0, 1, 0, 0);
+        x.measure(2, 2, 1, 0, 0);
+        due("of two", x.placings(0), 2);
+        due("its CELLS", x.could(1), 2);
+        x.measure(2, 0, 2, 0, 0);
+        due("of three", x.placings(0), 0);
+        due("its CELLS", x.could(1), 0);
+        due("as NARROWED", x.about(1, 2), 2);
+        due("no QUARREL", x.quarrel(), NONE);
+        due("not the first", x.nth(0, 0), UNKNOWN);
+        due("not to be taken", x.take(0, 0), UNKNOWN);
+        due("of 0 PLACINGS", x.ask(2, 1), 0);
+        due("the first", x.ask(2, 0), 0);
+        due("of 0 PLACINGS", x.between(2, 2), 0);
+        due("the first two", x.between(2, 0), 0);
+        due("the first two", x.between(2, 1), 1);
+        due("not SURE", x.sure(1), NONE);
+        due("not together", x.together(0, 0, 1, 1), 0);
+        x.turn(0, false);
+        due("OFF it need not be KEPT", x.placings(0), 2);
+        due("its CELLS", x.could(1), 2);
+        due("together", x.together(0, 0, 1, 0), 1);
+        due("not together", x.together(0, 0, 2, 0), 0);
+    }
+
+    private static void oneByOneTillRefused() {
+        told("Then one by one: where cells are not there (INDEX, told by fault()), or one would be refused, it ends; those ahead"
+            + " came.");
+        long[][] refused = {{1, 2, 0, 0, 9}, {1, 0, -1, 0, 9}, {5, 0, 1, 0, 9}, {1, 1, 1, 0, 9}, {1, 0, 1, 0, 99},
+            {0, 0, 1, 9, 8}};
+        for (long[] one : refused) {
+            HeardPlaces x = rowOf(2, 2);
+            lay(x, 0, 3, 1, 0, 1, 0, 9, 2, 1, 0, 0, 98, one[0], one[1], one[2], one[3], one[4], 1, 0, 1, 0, 9);
+            due("two of four", x.measures(0, 3, 0, 4), 2);
+            due("no FAULT", x.fault(), 0);
+            due("those ahead came", x.many(2), 2);
+            due("the second", x.told(1, 0), 2);
+            due("the refused one is the last", x.measures(0, 3, 5, 2), 1);
+            due("it is the first", x.measures(0, 3, 10, 2), 0);
+            due("it is not asked for", x.measures(0, 3, 5, 1), 1);
+            due("the one after it", x.measures(0, 3, 15, 1), 1);
+            due("one more that is not there", x.measures(0, 3, 15, 2), 1);
+            due("INDEX", x.fault(), 3);
+            due("how many", x.many(2), 6);
+        }
+        HeardPlaces x = rowOf(2, 2);
+        for (int m = 0; m < 58; m++) {
+            x.measure(1, 0, 1, 0, 9);
+        }
+        lay(x, 0, 0, 1, 0, 1, 0, 9, 1, 0, 1, 0, 9, 1, 0, 1, 0, 9);
+        due("two till it is FULL", x.measures(0, 0, 0, 3), 2);
+        due("no FAULT", x.fault(), 0);
+        due("none more", x.measures(0, 0, 0, 1), 0);
+        due("no FAULT", x.fault(), 0);
+        due("cells that are not there, though it is FULL", x.measures(0, 0, 15, 1), 0);
+        due("INDEX", x.fault(), 3);
+        HeardPlaces none = new HeardPlaces();
+        none.sheet(0, 0, 64);
+        due("no THINGS", none.measures(0, 0, 0, 1), 0);
+        due("no FAULT", none.fault(), 0);
+    }
+
+    private static void flipTellsOf() {
+        told("Of the i-th FLIP: 0 the first JOINT, 1 the second (NONE), 2 the TURNING, 3 THINGS of the PART as bits.");
+        HeardPlaces x = new HeardPlaces();
+        addThings(x, 24);
+        for (int t = 1; t < 24; t++) {
+            x.measure(1, t - 1, t, 0, 98);
+        }
+        for (int t = 0; t < 24; t++) {
+            x.put(t, at(3, 3));
+        }
+        x.put(23, at(3, 4));
+        // The last one alone moves, about each of the others; about itself all others do, where they may.
+        due("flips", x.flips(0), 23 * 6 + 6);
+        int n = 0;
+        for (int joint = 0; joint < 23; joint++, n += 6) {
+            allDue("flip " + n, new long[] {x.flip(5, n, 0), x.flip(5, n, 1), x.flip(5, n, 2), x.flip(5, n, 3)},
+                joint, NONE, 1, 0xffffff & -2 << joint);
+            due("the last of that JOINT", x.flip(23, n + 5, 2), 7);
+        }
+        allDue("the last", new long[] {x.flip(0, n + 5, 0), x.flip(0, n + 5, 1), x.flip(0, n + 5, 2), x.flip(0, n + 5, 3)},
+            23, NONE, 7, 0x7fffff);
+        due("none after it", x.flip(0, n + 6, 0), UNKNOWN);
+        due("how many move", x.flipped(0, n), 23);
+        due("the JOINT does not", x.about(23, 5), at(3, 4));
+    }
+
+    /** Of a HOLD: what it tells, is greeted or weighed; and the numbers that are left in a TRACE of 0. */
+    private static void bodyDue(String words, int kind, int[] numbers, int greeting, int want, int... trace) {
+        told(words);
+        HeardPlaces x = new HeardPlaces();
+        boolean isThing = numbers.length == 0;
+        addThings(x, isThing ? 23 : 24);
+        int number = isThing ? x.thing(kind, 63) : x.measure(kind, 23, 22, numbers[0], numbers[1]);
+        due("hold", x.hold(7, isThing ? 0 : 1, number), 1);
+        due("it", greeting == 1 ? x.greet(7, isThing ? 0 : 1) : x.tell(7, isThing ? 0 : 1), want);
+        due("no FAULT", x.fault(), 0);
+        int due = 0;
+        for (int one : trace) {
+            due = 31 * due + one;
+        }
+        due("the TRACE", x.trace(), due);
+        due("of another kind", greeting == 1 ? x.greet(7, isThing ? 1 : 0) : x.tell(7, isThing ? 1 : 0), CAST);
+        due("the TRACE then", x.trace(), due);
+    }
+
+    private static void bodies() {
+        int[] thing = {};
+        bodyDue("THING (1): 3 times its number.", 0, thing, 0, 69, 1);
+        bodyDue("ANCHOR (2): what THING's gives, and its CELL.", 1, thing, 0, 69 + 63, 2, 1);
+        bodyDue("BEACON (3): what ANCHOR's gives, and what THING's gives (ANCHOR's left out).", 2, thing, 0,
+            132 + 69, 3, 2, 1, 1);
+        bodyDue("MEASURE (4): the sum of its THINGS' numbers.", 3, new int[] {3, 98}, 0, 45, 4);
+        bodyDue("FAR (5): what MEASURE's gives, and p and q.", 0, new int[] {97, 98}, 0, 45 + 195, 5, 4);
+        bodyDue("HEARS (6): what FAR's gives, less 1000.", 1, new int[] {97, 98}, 0, 45 + 98 - 1000, 6, 5, 4);
+        bodyDue("DEAF (7): what HEARS' gives, and what MEASURE's gives (HEARS' and FAR's left out).", 2, new int[] {97, 98}, 0,
+            143 - 1000 + 45, 7, 6, 5, 4, 4);
+        bodyDue("SIDE none of its own: MEASURE's.", 3, new int[] {0, 0}, 0, 45, 4);
+        bodyDue("STEPS (8): what FAR's gives (HEARS' left out), twice.", 4, new int[] {20, 98}, 0, 2 * (45 + 118), 8, 5, 4);
+        told("TELLING of what a HOLD has, taken as a THING (what 0), a MEASURE (1). UNKNOWN; OUTSIDE; CAST; NULL.");
+        bodyDue("GREETED by a lent body of THINGS (9): its number;", 0, thing, 1, 23, 9);
+        bodyDue("GREETED by a lent body of THINGS (9): its number;", 1, thing, 1, 23, 9);
+        bodyDue("BEACONS have their own (10): 500, and what the lent one gives.", 2, thing, 1, 523, 10, 9);
+        bodyDue("WEIGHED by a lent body of MEASURES (11): 10 and its kind;", 0, new int[] {0, 98}, 1, 10, 11);
+        bodyDue("WEIGHED by a lent body of MEASURES (11): 10 and its kind;", 3, new int[] {0, 98}, 1, 13, 11);
+        bodyDue("HEARS has its own (12): 7;", 1, new int[] {0, 98}, 1, 7, 12);
+        bodyDue("DEAF HEARS';", 2, new int[] {0, 98}, 1, 7, 12);
+        bodyDue("STEPS its own (13): what HEARS' gives, and what the lent one gives.", 4, new int[] {0, 98}, 1,
+            7 + 14, 13, 12, 11);
+        told("How it is GREETED (what 0, taken as a THING), WEIGHED (1, as a MEASURE). UNKNOWN; OUTSIDE; CAST; NULL.");
+        HeardPlaces x = new HeardPlaces();
+        for (int what = 0; what < 2; what++) {
+            due("nothing told", x.tell(0, what), NULL);
+            due("nothing greeted", x.greet(7, what), NULL);
+            due("no such HOLD", x.tell(8, what), UNKNOWN);
+            due("no such HOLD", x.greet(-1, what), UNKNOWN);
+        }
+        for (int what : new int[] {MIN, -1, 2, MAX}) {
+            due("what", x.tell(0, what), OUTSIDE);
+            due("what", x.greet(0, what), OUTSIDE);
+            due("UNKNOWN ahead of it", x.greet(8, what), UNKNOWN);
+        }
+        due("nothing left", x.trace(), 0);
     }
 
     public static void main(String[] arguments) throws Exception {

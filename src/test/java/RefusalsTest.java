@@ -1,3 +1,5 @@
+import java.nio.file.Files;
+import java.nio.file.Path;
 import java.util.ArrayList;
 import java.util.List;
 
@@ -17,6 +19,7 @@ public final class RefusalsTest {
     private static int wrong = 0;
     private static long answers = 0;
     private static Desk desk;
+    private static String document;
 
     private interface Call {
         long of(HeardPlaces x, long[] a);
@@ -346,7 +349,9 @@ public final class RefusalsTest {
         private final List<long[]> refused = new ArrayList<>();
         private final List<Integer> firsts = new ArrayList<>();
 
-        Line(String name, Call call, long[]... values) {
+        /** Of a call its name, and what its line tells of refusals and faults. */
+        Line(String name, String told, Call call, long[]... values) {
+            due(lineOf(name).contains(told), "the document does not tell so of " + name + "(): " + told);
             this.name = name;
             this.call = call;
             this.values = values;
@@ -469,6 +474,13 @@ public final class RefusalsTest {
         }
     }
 
+    /** What the document tells of a call, whichever promise it is. */
+    private static String lineOf(String name) {
+        int from = document.indexOf(": " + name + " `");
+        int to = document.indexOf(" ## ", from);
+        return from < 0 || to < 0 ? "" : document.substring(from, to);
+    }
+
     private static int n(long[] a, int i) {
         return (int) a[i];
     }
@@ -513,12 +525,16 @@ public final class RefusalsTest {
     // ---- the lines
 
     private static void field() {
-        new Line("field", (x, a) -> x.field(n(a, 0), n(a, 1)), row(MIN, -1, 0, 1, 8, 9, MAX), row(MIN, -1, 0, 1, 8, 9, MAX))
+        new Line("field", "how many CELLS. OUTSIDE.",
+                (x, a) -> x.field(n(a, 0), n(a, 1)), row(MIN, -1, 0, 1, 8, 9, MAX), row(MIN, -1, 0, 1, 8, 9, MAX))
             .refused(OUTSIDE, a -> out(a[0], 1, 8) || out(a[1], 1, 8)).hold();
-        new Line("wall", (x, a) -> x.wall(n(a, 0), on(a, 1)), from(-2, 66), SWITCH)
+        new Line("wall", "UNKNOWN; STATE: an ANCHOR stands there.",
+                (x, a) -> x.wall(n(a, 0), on(a, 1)), from(-2, 66), SWITCH)
             .refused(UNKNOWN, a -> !desk.isCell(a[0]))
             .refused(STATE, a -> (desk.anchorCells >>> a[0] & 1) != 0).hold();
-        new Line("plan", (x, a) -> x.plan(n(a, 0), n(a, 1), n(a, 2)), from(-1, 4), from(-1, 4),
+        new Line("plan", "UNKNOWN; OUTSIDE: lane; CAST (nothing is no CAST); NULL; INDEX; then STATE: an ANCHOR would stand on"
+                + " a WALL.",
+                (x, a) -> x.plan(n(a, 0), n(a, 1), n(a, 2)), from(-1, 4), from(-1, 4),
                 row(MIN, -1, 0, 1, 2, 44, 45, 64, MAX))
             .namesFaults()
             .refused(UNKNOWN, a -> out(a[0], 0, 3))
@@ -527,27 +543,33 @@ public final class RefusalsTest {
             .fault(NULL, a -> !desk.hasRow(a[0]))
             .fault(INDEX, a -> a[2] < 0 || a[2] + desk.w * desk.h > desk.lengthOf(a[0]))
             .refused(STATE, a -> desk.bars(a[0], a[2])).hold();
-        new Line("thing", (x, a) -> x.thing(n(a, 0), n(a, 1)), row(MIN, -1, 0, 1, 2, 3, MAX), from(-1, 64))
+        new Line("thing", "OUTSIDE: kind; UNKNOWN: cell; STATE: it is a WALL; FULL.",
+                (x, a) -> x.thing(n(a, 0), n(a, 1)), row(MIN, -1, 0, 1, 2, 3, MAX), from(-1, 64))
             .refused(OUTSIDE, a -> out(a[0], 0, 2))
             .refused(UNKNOWN, a -> a[0] != 0 && !desk.isCell(a[1]))
             .refused(STATE, a -> a[0] != 0 && (desk.walls >>> a[1] & 1) != 0)
             .refused(FULL, a -> desk.kinds.length() == 24).hold();
         long[] ends = {-1, 0, 3, 7, 8};
-        new Line("box", (x, a) -> x.box(n(a, 0), n(a, 1), n(a, 2), n(a, 3), n(a, 4)), things(), ends, ends, ends, ends)
+        new Line("box", "UNKNOWN; STATE: it is an ANCHOR; OUTSIDE: x1, y1, x2, y2 are not 0 .. 7, x1 is above x2, y1 above y2.",
+                (x, a) -> x.box(n(a, 0), n(a, 1), n(a, 2), n(a, 3), n(a, 4)), things(), ends, ends, ends, ends)
             .refused(UNKNOWN, a -> !desk.isThing(a[0]))
             .refused(STATE, a -> desk.isAnchor(a[0]))
             .refused(OUTSIDE, a -> out(a[1], 0, 7) || out(a[2], 0, 7) || out(a[3], 0, 7) || out(a[4], 0, 7)
                 || a[1] > a[3] || a[2] > a[4]).hold();
-        new Line("about", (x, a) -> x.about(n(a, 0), n(a, 1)), allThings(), row(MIN, -1, 0, 8, 9, MAX))
+        new Line("about", "UNKNOWN; OUTSIDE.",
+                (x, a) -> x.about(n(a, 0), n(a, 1)), allThings(), row(MIN, -1, 0, 8, 9, MAX))
             .refused(UNKNOWN, a -> !desk.isThing(a[0]))
             .refused(OUTSIDE, a -> out(a[1], 0, 8)).hold();
-        new Line("can", (x, a) -> x.can(n(a, 0), n(a, 1), n(a, 2)), things(), cells(), ends(0, 1))
+        new Line("can", "UNKNOWN: THING, cell; OUTSIDE.",
+                (x, a) -> x.can(n(a, 0), n(a, 1), n(a, 2)), things(), cells(), ends(0, 1))
             .refused(UNKNOWN, a -> !desk.isThing(a[0]))
             .refused(UNKNOWN, a -> !desk.isCell(a[1]))
             .refused(OUTSIDE, a -> out(a[2], 0, 1)).hold();
-        new Line("cells", (x, a) -> x.cells(n(a, 0)), allThings()).mayAnswerSo()
+        new Line("cells", "0 for UNKNOWN, too.",
+                (x, a) -> x.cells(n(a, 0)), allThings()).mayAnswerSo()
             .refused(0, a -> !desk.isThing(a[0])).hold();
-        new Line("hops", (x, a) -> x.hops(n(a, 0), n(a, 1), n(a, 2)), from(-1, 64), cells(), ends(0, 98)).mayAnswerSo()
+        new Line("hops", "UNKNOWN: a cell; OUTSIDE: r is not 0 .. 98; STATE: one is a WALL.",
+                (x, a) -> x.hops(n(a, 0), n(a, 1), n(a, 2)), from(-1, 64), cells(), ends(0, 98)).mayAnswerSo()
             .refused(UNKNOWN, a -> !desk.isCell(a[0]))
             .refused(UNKNOWN, a -> !desk.isCell(a[1]))
             .refused(OUTSIDE, a -> out(a[2], 0, 98))
@@ -572,13 +594,16 @@ public final class RefusalsTest {
 
     private static void measures() {
         long[] numbers = {-1, 0, 1, 3, 4, 20, 21, 98, 99};
-        new Line("measure", (x, a) -> x.measure(n(a, 0), n(a, 1), n(a, 2), n(a, 3), n(a, 4)), from(-1, 5),
+        new Line("measure", "UNKNOWN: THINGS; OUTSIDE: kind, both are one, p, q (of HEARS, DEAF p, of SIDE q is not looked at);"
+                + " FULL.",
+                (x, a) -> x.measure(n(a, 0), n(a, 1), n(a, 2), n(a, 3), n(a, 4)), from(-1, 5),
                 row(-1, 0, desk.kinds.length() - 1, desk.kinds.length()), row(MIN, 0, 1, desk.kinds.length()), numbers, numbers)
             .refused(UNKNOWN, a -> !desk.isThing(a[1]))
             .refused(UNKNOWN, a -> !desk.isThing(a[2]))
             .refused(OUTSIDE, a -> a[1] == a[2] || isUntold(a[0], a[3], a[4]))
             .refused(FULL, a -> desk.measures == 60).hold();
-        new Line("measures", (x, a) -> x.measures(n(a, 0), n(a, 1), n(a, 2), n(a, 3)), from(-1, 4), from(-1, 4),
+        new Line("measures", "UNKNOWN: SHEET; OUTSIDE: lane; CAST (nothing is no CAST); NULL; SIZE: n below 0.",
+                (x, a) -> x.measures(n(a, 0), n(a, 1), n(a, 2), n(a, 3)), from(-1, 4), from(-1, 4),
                 row(MIN, -1, 0, 59, 60, MAX), row(MIN, -1, 0, 1, MAX))
             .namesFaults()
             .refused(UNKNOWN, a -> out(a[0], 0, 3))
@@ -586,12 +611,15 @@ public final class RefusalsTest {
             .fault(CAST, a -> desk.hasRow(a[0]) && desk.lanes[n(a, 0)] != a[1])
             .fault(NULL, a -> !desk.hasRow(a[0]))
             .fault(SIZE, a -> a[3] < 0).hold();
-        new Line("turn", (x, a) -> x.turn(n(a, 0), on(a, 1)), ends(0, desk.measures - 1), SWITCH)
+        new Line("turn", "UNKNOWN.",
+                (x, a) -> x.turn(n(a, 0), on(a, 1)), ends(0, desk.measures - 1), SWITCH)
             .refused(UNKNOWN, a -> out(a[0], 0, desk.measures - 1)).hold();
-        new Line("told", (x, a) -> x.told(n(a, 0), n(a, 1)), ends(0, desk.measures - 1), ends(0, 6))
+        new Line("told", "UNKNOWN; OUTSIDE.",
+                (x, a) -> x.told(n(a, 0), n(a, 1)), ends(0, desk.measures - 1), ends(0, 6))
             .refused(UNKNOWN, a -> out(a[0], 0, desk.measures - 1))
             .refused(OUTSIDE, a -> out(a[1], 0, 6)).hold();
-        new Line("keeps", (x, a) -> x.keeps(n(a, 0), n(a, 1), n(a, 2)), ends(0, desk.measures - 1), cells(), cells())
+        new Line("keeps", "UNKNOWN (of STEPS a WALL is never KEPT).",
+                (x, a) -> x.keeps(n(a, 0), n(a, 1), n(a, 2)), ends(0, desk.measures - 1), cells(), cells())
             .refused(UNKNOWN, a -> out(a[0], 0, desk.measures - 1))
             .refused(UNKNOWN, a -> !desk.isCell(a[1]))
             .refused(UNKNOWN, a -> !desk.isCell(a[2])).hold();
@@ -607,23 +635,29 @@ public final class RefusalsTest {
     }
 
     private static void groups() {
-        new Line("group", (x, a) -> x.group(n(a, 0)), allThings())
+        new Line("group", "0 for UNKNOWN.",
+                (x, a) -> x.group(n(a, 0)), allThings())
             .refused(0, a -> !desk.isThing(a[0])).hold();
-        new Line("placings", (x, a) -> x.placings(n(a, 0)), allThings())
+        new Line("placings", "UNKNOWN; SPENT.",
+                (x, a) -> x.placings(n(a, 0)), allThings())
             .refused(UNKNOWN, a -> !desk.isThing(a[0]))
             .refused(SPENT, a -> isSpent(a[0])).hold();
         long[] few = {MIN, -1, 0, 1, 62, 63, 999, MAX};
-        new Line("nth", (x, a) -> x.nth(n(a, 0), n(a, 1)), allThings(), few)
+        new Line("nth", "UNKNOWN: u, n; SPENT.",
+                (x, a) -> x.nth(n(a, 0), n(a, 1)), allThings(), few)
             .refused(UNKNOWN, a -> !desk.isThing(a[0]))
             .refused(UNKNOWN, a -> isNoPlacing(a[0], a[1]))
             .refused(SPENT, a -> isSpent(a[0])).hold();
-        new Line("sure", (x, a) -> x.sure(n(a, 0)), allThings())
+        new Line("sure", "UNKNOWN; SPENT.",
+                (x, a) -> x.sure(n(a, 0)), allThings())
             .refused(UNKNOWN, a -> !desk.isThing(a[0]))
             .refused(SPENT, a -> isSpent(a[0])).hold();
-        new Line("could", (x, a) -> x.could(n(a, 0)), allThings())
+        new Line("could", "UNKNOWN; SPENT.",
+                (x, a) -> x.could(n(a, 0)), allThings())
             .refused(UNKNOWN, a -> !desk.isThing(a[0]))
             .refused(SPENT, a -> isSpent(a[0])).hold();
-        new Line("together", (x, a) -> x.together(n(a, 0), n(a, 1), n(a, 2), n(a, 3)), row(-1, 0, 3, desk.kinds.length() - 1,
+        new Line("together", "UNKNOWN: THINGS, cells; SPENT (t's GROUP ahead of u's).",
+                (x, a) -> x.together(n(a, 0), n(a, 1), n(a, 2), n(a, 3)), row(-1, 0, 3, desk.kinds.length() - 1,
                 desk.kinds.length()), row(-1, 0, desk.w, 63, 64), row(-1, 0, 3, desk.kinds.length() - 1, desk.kinds.length()),
                 row(-1, 0, 8 * desk.h, 63, 64))
             .refused(UNKNOWN, a -> !desk.isThing(a[0]))
@@ -632,11 +666,13 @@ public final class RefusalsTest {
             .refused(UNKNOWN, a -> !desk.isCell(a[3]))
             .refused(SPENT, a -> isSpent(a[0]))
             .refused(SPENT, a -> isSpent(a[2])).hold();
-        new Line("ask", (x, a) -> x.ask(n(a, 0), n(a, 1)), allThings(), ends(0, 1))
+        new Line("ask", "UNKNOWN; OUTSIDE; SPENT.",
+                (x, a) -> x.ask(n(a, 0), n(a, 1)), allThings(), ends(0, 1))
             .refused(UNKNOWN, a -> !desk.isThing(a[0]))
             .refused(OUTSIDE, a -> out(a[1], 0, 1))
             .refused(SPENT, a -> isSpent(a[0])).hold();
-        new Line("between", (x, a) -> x.between(n(a, 0), n(a, 1)), allThings(), ends(0, 2))
+        new Line("between", "UNKNOWN; OUTSIDE; SPENT; NONE: the GROUP has but one THING.",
+                (x, a) -> x.between(n(a, 0), n(a, 1)), allThings(), ends(0, 2))
             .refused(UNKNOWN, a -> !desk.isThing(a[0]))
             .refused(OUTSIDE, a -> out(a[1], 0, 2))
             .refused(SPENT, a -> isSpent(a[0]))
@@ -644,46 +680,58 @@ public final class RefusalsTest {
     }
 
     private static void maps() {
-        new Line("put", (x, a) -> x.put(n(a, 0), n(a, 1)), allThings(), row(MIN, -10, -9, -8, -1, 0, desk.w - 1, desk.w,
+        new Line("put", "(-9: none any more): what it had (NONE). UNKNOWN.",
+                (x, a) -> x.put(n(a, 0), n(a, 1)), allThings(), row(MIN, -10, -9, -8, -1, 0, desk.w - 1, desk.w,
                 8 * desk.h - 9 + desk.w, 8 * desk.h, 63, 64, MAX))
             .refused(UNKNOWN, a -> !desk.isThing(a[0]))
             .refused(UNKNOWN, a -> a[1] != NONE && !desk.isCell(a[1])).hold();
-        new Line("take", (x, a) -> x.take(n(a, 0), n(a, 1)), allThings(), row(MIN, -1, 0, 1, 62, 63, 999, MAX))
+        new Line("take", "UNKNOWN: THING, n; SPENT.",
+                (x, a) -> x.take(n(a, 0), n(a, 1)), allThings(), row(MIN, -1, 0, 1, 62, 63, 999, MAX))
             .refused(UNKNOWN, a -> !desk.isThing(a[0]))
             .refused(UNKNOWN, a -> isNoPlacing(a[0], a[1]))
             .refused(SPENT, a -> isSpent(a[0])).hold();
-        new Line("flips", (x, a) -> x.flips(n(a, 0)), allThings())
+        new Line("flips", "UNKNOWN; STATE: one of it has no CELL on THE MAP.",
+                (x, a) -> x.flips(n(a, 0)), allThings())
             .refused(UNKNOWN, a -> !desk.isThing(a[0]))
             .refused(STATE, a -> desk.is(desk.offMap, a[0])).hold();
-        new Line("flip", (x, a) -> x.flip(n(a, 0), n(a, 1), n(a, 2)), allThings(), row(MIN, -9, -1, 0, 1, 999, MAX), ends(0, 3))
+        new Line("flip", "UNKNOWN: THING; STATE: as flips(); UNKNOWN: i; OUTSIDE.",
+                (x, a) -> x.flip(n(a, 0), n(a, 1), n(a, 2)), allThings(), row(MIN, -9, -1, 0, 1, 999, MAX), ends(0, 3))
             .refused(UNKNOWN, a -> !desk.isThing(a[0]))
             .refused(STATE, a -> desk.is(desk.offMap, a[0]))
             .refused(UNKNOWN, a -> a[1] < 0 || a[1] >= desk.make().flips(n(a, 0)))
             .refused(OUTSIDE, a -> out(a[2], 0, 3)).hold();
-        new Line("flipped", (x, a) -> x.flipped(n(a, 0), n(a, 1)), allThings(), row(MIN, -9, -1, 0, 1, 999, MAX))
+        new Line("flipped", "UNKNOWN, STATE: as flip().",
+                (x, a) -> x.flipped(n(a, 0), n(a, 1)), allThings(), row(MIN, -9, -1, 0, 1, 999, MAX))
             .refused(UNKNOWN, a -> !desk.isThing(a[0]))
             .refused(STATE, a -> desk.is(desk.offMap, a[0]))
             .refused(UNKNOWN, a -> a[1] < 0 || a[1] >= desk.make().flips(n(a, 0))).hold();
     }
 
     private static void movers() {
-        new Line("mover", (x, a) -> x.mover(n(a, 0), n(a, 1)), row(MIN, -1, 0, 1, 2, 8, 9, MAX), ends(0, 98))
+        new Line("mover", "OUTSIDE: n, r; FULL: MOVERS, THINGS, MEASURES.",
+                (x, a) -> x.mover(n(a, 0), n(a, 1)), row(MIN, -1, 0, 1, 2, 8, 9, MAX), ends(0, 98))
             .refused(OUTSIDE, a -> out(a[0], 2, 8) || out(a[1], 0, 98))
             .refused(FULL, a -> desk.movers == 3).hold();
-        new Line("tick", (x, a) -> x.tick(n(a, 0), n(a, 1)), from(-1, 3), from(-1, 9))
+        new Line("tick", "UNKNOWN.",
+                (x, a) -> x.tick(n(a, 0), n(a, 1)), from(-1, 3), from(-1, 9))
             .refused(UNKNOWN, a -> !desk.isTick(a[0], a[1])).hold();
-        new Line("ways", (x, a) -> x.ways(n(a, 0)), row(MIN, -1, 0, 1, 2, 3, MAX)).answersLong()
+        new Line("ways", "LOST: UNKNOWN.",
+                (x, a) -> x.ways(n(a, 0)), row(MIN, -1, 0, 1, 2, 3, MAX)).answersLong()
             .refused(UNKNOWN, a -> out(a[0], 0, desk.movers - 1)).hold();
-        new Line("way", (x, a) -> x.way(n(a, 0), a[1], n(a, 2)), from(-1, 3), row(LOST, MIN, -1, 0, 77, 78, 1L << 60,
+        new Line("way", "UNKNOWN: MOVER, TICK, n.",
+                (x, a) -> x.way(n(a, 0), a[1], n(a, 2)), from(-1, 3), row(LOST, MIN, -1, 0, 77, 78, 1L << 60,
                 Long.MAX_VALUE), from(-1, 9))
             .refused(UNKNOWN, a -> !desk.isTick(a[0], a[2]))
             .refused(UNKNOWN, a -> a[1] < 0 || a[1] >= desk.make().ways(n(a, 0))).hold();
-        new Line("trust", (x, a) -> x.trust(n(a, 0), on(a, 1)), allThings(), SWITCH)
+        new Line("trust", "UNKNOWN.",
+                (x, a) -> x.trust(n(a, 0), on(a, 1)), allThings(), SWITCH)
             .refused(UNKNOWN, a -> !desk.isThing(a[0])).hold();
-        new Line("liars", (x, a) -> x.liars(n(a, 0)), ends(0, 1))
+        new Line("liars", "OUTSIDE; NONE: none of 0, 1, 2 THINGS does.",
+                (x, a) -> x.liars(n(a, 0)), ends(0, 1))
             .refused(OUTSIDE, a -> out(a[0], 0, 1))
             .refused(NONE, a -> desk.noLiars).hold();
-        new Line("lies", (x, a) -> x.lies(n(a, 0)), allThings())
+        new Line("lies", "UNKNOWN; NONE: as liars().",
+                (x, a) -> x.lies(n(a, 0)), allThings())
             .refused(UNKNOWN, a -> !desk.isThing(a[0]))
             .refused(NONE, a -> desk.noLiars).hold();
     }
@@ -693,7 +741,7 @@ public final class RefusalsTest {
     }
 
     private static void bodies(String name, Call call) {
-        new Line(name, call, from(-1, 8), ends(0, 1)).namesFaults().mayAnswerSo()
+        new Line(name, "UNKNOWN; OUTSIDE; CAST; NULL.", call, from(-1, 8), ends(0, 1)).namesFaults().mayAnswerSo()
             .refused(UNKNOWN, a -> out(a[0], 0, 7))
             .refused(OUTSIDE, a -> out(a[1], 0, 1))
             .fault(CAST, a -> !isEmptyHold(a[0]) && desk.holds[n(a, 0)].startsWith("0") != (a[1] == 0))
@@ -701,18 +749,23 @@ public final class RefusalsTest {
     }
 
     private static void holds() {
-        new Line("keep", (x, a) -> x.keep(n(a, 0)), ends(0, 1))
+        new Line("keep", "UNKNOWN.",
+                (x, a) -> x.keep(n(a, 0)), ends(0, 1))
             .refused(UNKNOWN, a -> out(a[0], 0, 1)).hold();
-        new Line("back", (x, a) -> x.back(n(a, 0)), ends(0, 1))
+        new Line("back", "UNKNOWN; STATE: nothing was kept so.",
+                (x, a) -> x.back(n(a, 0)), ends(0, 1))
             .refused(UNKNOWN, a -> out(a[0], 0, 1))
             .refused(STATE, a -> !desk.kept[n(a, 0)]).hold();
-        new Line("hold", (x, a) -> x.hold(n(a, 0), n(a, 1), n(a, 2)), ends(0, 7), ends(0, 1), from(-1, 61))
+        new Line("hold", "UNKNOWN: HOLD; OUTSIDE: what; UNKNOWN: there is no such.",
+                (x, a) -> x.hold(n(a, 0), n(a, 1), n(a, 2)), ends(0, 7), ends(0, 1), from(-1, 61))
             .refused(UNKNOWN, a -> out(a[0], 0, 7))
             .refused(OUTSIDE, a -> out(a[1], 0, 1))
             .refused(UNKNOWN, a -> a[1] == 0 ? !desk.isThing(a[2]) : out(a[2], 0, desk.measures - 1)).hold();
-        new Line("loose", (x, a) -> x.loose(n(a, 0)), from(-1, 8))
+        new Line("loose", "UNKNOWN.",
+                (x, a) -> x.loose(n(a, 0)), from(-1, 8))
             .refused(UNKNOWN, a -> out(a[0], 0, 7)).hold();
-        new Line("as", (x, a) -> x.as(n(a, 0), n(a, 1)), from(-1, 8), from(-1, 9)).namesFaults()
+        new Line("as", "UNKNOWN; OUTSIDE; CAST (nothing is no CAST); NULL.",
+                (x, a) -> x.as(n(a, 0), n(a, 1)), from(-1, 8), from(-1, 9)).namesFaults()
             .refused(UNKNOWN, a -> out(a[0], 0, 7))
             .refused(OUTSIDE, a -> out(a[1], 0, 8))
             .fault(CAST, a -> !isEmptyHold(a[0]) && desk.holds[n(a, 0)].indexOf((char) ('0' + a[1])) < 0)
@@ -722,21 +775,25 @@ public final class RefusalsTest {
     }
 
     private static void sheets() {
-        new Line("sheet", (x, a) -> x.sheet(n(a, 0), n(a, 1), n(a, 2)), from(-1, 4), from(-1, 4),
+        new Line("sheet", "UNKNOWN; OUTSIDE: lane, n above 64; SIZE.",
+                (x, a) -> x.sheet(n(a, 0), n(a, 1), n(a, 2)), from(-1, 4), from(-1, 4),
                 row(MIN, -1, 0, 1, 64, 65, MAX))
             .namesFaults()
             .refused(UNKNOWN, a -> out(a[0], 0, 3))
             .refused(OUTSIDE, a -> out(a[1], 0, 3) || a[2] > 64)
             .fault(SIZE, a -> a[2] < 0).hold();
-        new Line("lose", (x, a) -> x.lose(n(a, 0)), from(-1, 4))
+        new Line("lose", "UNKNOWN.",
+                (x, a) -> x.lose(n(a, 0)), from(-1, 4))
             .refused(UNKNOWN, a -> out(a[0], 0, 3)).hold();
         long[] places = {MIN, -1, 0, 1, 11, 12, 20, 21, 63, 64, MAX};
-        new Line("lay", (x, a) -> x.lay(n(a, 0), n(a, 1), a[2]), from(-1, 4), places, row(LOST, 7))
+        new Line("lay", "UNKNOWN; NULL; INDEX.",
+                (x, a) -> x.lay(n(a, 0), n(a, 1), a[2]), from(-1, 4), places, row(LOST, 7))
             .namesFaults()
             .refused(UNKNOWN, a -> out(a[0], 0, 3))
             .fault(NULL, a -> !desk.hasRow(a[0]))
             .fault(INDEX, a -> out(a[1], 0, desk.lengthOf(a[0]) - 1)).hold();
-        new Line("cell", (x, a) -> x.cell(n(a, 0), n(a, 1), n(a, 2)), from(-1, 4), places, from(-1, 4))
+        new Line("cell", "LOST: UNKNOWN, OUTSIDE: lane; FAULTS CAST (nothing is no CAST), NULL, INDEX.",
+                (x, a) -> x.cell(n(a, 0), n(a, 1), n(a, 2)), from(-1, 4), places, from(-1, 4))
             .namesFaults().answersLong()
             .refused(UNKNOWN, a -> out(a[0], 0, 3))
             .refused(OUTSIDE, a -> out(a[2], 0, 3))
@@ -744,7 +801,8 @@ public final class RefusalsTest {
             .fault(NULL, a -> !desk.hasRow(a[0]))
             .fault(INDEX, a -> out(a[1], 0, desk.lengthOf(a[0]) - 1)).hold();
         long[] counts = {MIN, -1, 0, 1, 12, 13, 21, 22, 64, 65, MAX};
-        new Line("copy", (x, a) -> x.copy(n(a, 0), n(a, 1), n(a, 2), n(a, 3), n(a, 4)), from(-1, 4), row(-1, 0, 12, 13, 64, 65),
+        new Line("copy", "UNKNOWN; FAULTS NULL (the first, the other), CAST (unlike LANES), INDEX: i, j, n below 0 or beyond.",
+                (x, a) -> x.copy(n(a, 0), n(a, 1), n(a, 2), n(a, 3), n(a, 4)), from(-1, 4), row(-1, 0, 12, 13, 64, 65),
                 from(-1, 4), row(-1, 0, 12, 13, 64, 65), counts)
             .namesFaults()
             .refused(UNKNOWN, a -> out(a[0], 0, 3) || out(a[2], 0, 3))
@@ -753,11 +811,13 @@ public final class RefusalsTest {
             .fault(CAST, a -> desk.lanes[n(a, 0)] != desk.lanes[n(a, 2)])
             .fault(INDEX, a -> a[1] < 0 || a[3] < 0 || a[4] < 0 || a[1] + a[4] > desk.lengthOf(a[0])
                 || a[3] + a[4] > desk.lengthOf(a[2])).hold();
-        new Line("many", (x, a) -> x.many(n(a, 0)), ends(0, 9))
+        new Line("many", "OUTSIDE.",
+                (x, a) -> x.many(n(a, 0)), ends(0, 9))
             .refused(OUTSIDE, a -> out(a[0], 0, 9)).hold();
     }
 
-    public static void main(String[] arguments) {
+    public static void main(String[] arguments) throws Exception {
+        document = Files.readString(Path.of("../shared/DOC.md")).replaceAll("\\s+", " ");
         for (Desk each : new Desk[] {new Nothing(), new Some(), new Full()}) {
             desk = each;
             untouched.clear();
