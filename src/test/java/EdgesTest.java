@@ -621,6 +621,20 @@ public final class EdgesTest {
         due("no quarrel", y.quarrel(), NONE);
         y.measure(2, 22, 23, 0, 0);
         due("the last of them", y.quarrel(), 1);
+        // Others that are NARROWED behind the one that has none do not hide it, nor those that all keep.
+        HeardPlaces z = rowOf(4, 5);
+        z.measure(1, 2, 3, 0, 98);
+        z.box(4, 4, 0, 7, 0);
+        due("one that no MEASURE is of", z.quarrel(), 0);
+        due("it has none", z.about(4, 3), NONE);
+        z.box(4, 0, 0, 7, 0);
+        due("none", z.quarrel(), NONE);
+        z.measure(0, 0, 1, 98, 98);
+        z.measure(3, 2, 3, 0, 0);
+        due("the one in the middle", z.quarrel(), 1);
+        due("it", z.told(1, 6), 1);
+        due("the others have CELLS", z.about(2, 2), 3);
+        due("the sum", z.many(6), 3 + 3 + 4);
     }
 
     private static void leastQuarrels() {
@@ -761,6 +775,12 @@ public final class EdgesTest {
         x.alone(false);
         due("off again", x.placings(0), 64);
         due("off again", x.placings(3), 1);
+        HeardPlaces y = new HeardPlaces();
+        addThings(y, 24);
+        y.alone(true);
+        for (int t = 0; t < 24; t++) {
+            due("all CELLS, for none is an ANCHOR", y.could(t), 64);
+        }
     }
 
     private static void trialsAreCounted() {
@@ -1349,6 +1369,35 @@ public final class EdgesTest {
         y.alone(true);
         due("one that stays stands on the JOINT's", count(y, 1, 0, NONE, 6), 0);
         due("by itself the other moves", count(y, 1, 1, NONE, 4), 6);
+    }
+
+    private static void crowdedParts() {
+        told("and with ALONE stand on no other THING's CELL of THE MAP, nor two on one.");
+        // Three THINGS of a PART below an ANCHOR; each of them in turn finds its CELL taken.
+        HeardPlaces x = hung(at(3, 3), at(3, 4));
+        for (int t = 2; t < 4; t++) {
+            x.thing(0, 0);
+            x.measure(1, t - 1, t, 0, 98);
+            x.put(t, at(3, 3 + t));
+        }
+        x.thing(0, 0);
+        x.alone(true);
+        due("all six", count(x, 1, 0, NONE, 14), 6);
+        for (int step = 1; step < 4; step++) {
+            x.put(4, at(3, 3 - step));
+            due("TURNINGS 2 and 5 lead there", count(x, 1, 0, NONE, 14), 4);
+            x.put(4, at(3 + step, 3));
+            due("TURNINGS 3 and 6 lead there", count(x, 1, 0, NONE, 14), 4);
+            x.put(4, at(3, 3 + step));
+            due("none leads where all of it stood", count(x, 1, 0, NONE, 14), 6);
+        }
+        x.put(4, -9);
+        x.put(3, at(3, 4));
+        due("the first and the last on one", count(x, 1, 0, NONE, 14), 0);
+        x.put(3, at(3, 5));
+        due("the last two on one", count(x, 1, 0, NONE, 14), 0);
+        x.alone(false);
+        due("they may, without ALONE", count(x, 1, 0, NONE, 14), 6);
     }
 
     private static void flipsInOrder() {
